@@ -29,13 +29,13 @@ public final class BoardPress {
     private static final int TENTHS = 10;
     private static final int SEED_FACTOR = 1103515245, SEED_STEP = 12345;
     private static final int MOST_DAYS = 60, SHOWER = 10;
-    private static final int NO_FLOOR = Integer.MIN_VALUE;
+    /** Below each worth that is offered: PAIRS, NEWS, KINDS are 40 at most, below 0 too. */
+    private static final int NO_FLOOR = -1000;
 
-    private final Tape tape = new Tape();
+    private final TextReader textReader = new TextReader();
     private final Town town = new Town();
-    /** Where a text is drafted and changes are tried, so that what is refused changes nothing. */
+    /** Where changes are tried, so that what there is stays as it is. */
     private final Town trial = new Town();
-    private final TextReader textReader = new TextReader(tape, trial);
     private final Town[] images = new Town[IMAGES];
     private final boolean[] kept = new boolean[IMAGES];
     private final Memory memory = new Memory();
@@ -60,25 +60,25 @@ public final class BoardPress {
         if (!isWithin(c, 0, 127)) {
             return BAD;
         }
-        return tape.append(c) ? tape.length : FULL;
+        return textReader.tape.append(c) ? textReader.tape.length : FULL;
     }
 
     public int end(int n) {
-        if (!isWithin(n, 0, tape.length)) {
+        int had = textReader.tape.length;
+        if (!isWithin(n, 0, had)) {
             return BAD;
         }
-        int had = tape.length;
-        tape.length = n;
+        textReader.tape.length = n;
         return had;
     }
 
     public int text() {
         int lines = textReader.readAll();
-        tape.length = 0;
+        textReader.tape.length = 0;
         if (lines == NONE) {
             return FAULT_BASE - textReader.faultPlace;
         }
-        town.copyFrom(trial);
+        town.copyFrom(textReader.draft);
         memory.size = 0;
         for (int k = 0; k < IMAGES; k++) {
             kept[k] = false;
@@ -112,7 +112,7 @@ public final class BoardPress {
             case 1: return man.news;
             case 2: return man.pace();
             case 3: return man.corners;
-            case 4: return Long.bitCount(everyMinute(man.pace()) & DAY);
+            case 4: return Long.bitCount(repeated(1, man.pace()));
             default: return BAD;
         }
     }
@@ -551,7 +551,7 @@ public final class BoardPress {
         switch (what) {
             case 0: return memory.size;
             case 1: return (kept[0] ? 1 : 0) + (kept[1] ? 1 : 0);
-            case 2: return tape.length;
+            case 2: return textReader.tape.length;
             case 3: return sheets[0].lane == NONE ? NONE : sheets[0].cells;
             case 4: return town.cornersOfAllWalks();
             case 5: return town.minutesOfAllReaders();
@@ -632,13 +632,12 @@ public final class BoardPress {
         return (DAY << from) & (DAY >>> (LAST_MINUTE - until));
     }
 
-    /** MINUTE 0 and each one a period behind another; each turn doubles how many there are. */
-    private static long everyMinute(int period) {
-        long minutes = 1;
+    /** These MINUTES and all that are whole periods behind them; each turn doubles the periods. */
+    private static long repeated(long minutes, int period) {
         for (int reach = period; reach > 0 && reach < MINUTES; reach *= 2) {
             minutes |= minutes << reach;
         }
-        return minutes;
+        return minutes & DAY;
     }
 
     private static int firstMinute(long minutes) {
@@ -760,14 +759,13 @@ public final class BoardPress {
             }
             int pace = pace();
             int stepsBehind = side == BACK ? 1 : 0;
-            long rounds = everyMinute(pace * corners);
-            long minutes = 0;
+            long firstRound = 0;
             for (int i = 0; i < corners; i++) {
                 if (path[i] == corner) {
-                    minutes |= rounds << pace * (i + stepsBehind);
+                    firstRound |= 1L << (pace * (i + stepsBehind));
                 }
             }
-            return minutes & DAY;
+            return firstRound == 0 ? 0 : repeated(firstRound, pace * corners);
         }
 
         void turnTo(int i) {
@@ -1157,10 +1155,13 @@ public final class BoardPress {
     /** Reads THE TAPE into a draft, TOKEN by TOKEN; the first FAULT met ends it. */
     private static final class TextReader {
         private static final int END = 0, NAME = 1, NUMBER = 2, SEMICOLON = 3;
+        private static final int MOST_FIGURES = 2;
+        /** Lines that tell no MAN; one that tells a MAN is his KIND. */
         private static final int STREET_LINE = 4, READER_LINE = 5, RAIN_LINE = 6;
 
-        private final Tape tape;
-        private final Town draft;
+        final Tape tape = new Tape();
+        /** Apart from what there is, so that a text that is refused changes nothing. */
+        final Town draft = new Town();
         private int next;
         private int token;
         private int tokenPlace;
@@ -1169,9 +1170,7 @@ public final class BoardPress {
         int fault = NO_FAULT;
         int faultPlace;
 
-        TextReader(Tape tape, Town draft) {
-            this.tape = tape;
-            this.draft = draft;
+        TextReader() {
         }
 
         /** How many lines there are; NONE: there is a FAULT. */
@@ -1335,30 +1334,20 @@ public final class BoardPress {
                 return true;
             }
             if (isLetter(c)) {
-                readName();
+                token = NAME;
+                while (next < tape.length && isLetter(tape.byteAt(next))) {
+                    next++;
+                }
                 return true;
             }
-            if (isFigure(c)) {
-                readNumber();
-                return next - tokenPlace <= 2 || refuse(NO_TOKEN, tokenPlace);
-            }
-            return refuse(NO_TOKEN, tokenPlace);
-        }
-
-        private void readName() {
-            token = NAME;
-            while (next < tape.length && isLetter(tape.byteAt(next))) {
-                next++;
-            }
-        }
-
-        private void readNumber() {
             token = NUMBER;
             value = 0;
             while (next < tape.length && isFigure(tape.byteAt(next))) {
                 value = 10 * value + tape.byteAt(next) - '0';
                 next++;
             }
+            int figures = next - tokenPlace;
+            return isWithin(figures, 1, MOST_FIGURES) || refuse(NO_TOKEN, tokenPlace);
         }
 
         private int lineNamed() {
